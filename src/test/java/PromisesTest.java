@@ -284,6 +284,9 @@ public final class PromisesTest {
         due(x.made(6, 0, -1), BEYOND);
         due(x.made(8, 0, 0), BEYOND);
         due(x.made(-1, 0, 0), BEYOND);
+        // All slots on both sides (0, *, up, down, 1, -1, {2|2}, 0): {2|2} is the best for left, -1 for right.
+        due(x.made(6, 255, 255), 6);
+        dueWords(x, 6, "{{2|2}|-1}");
         x.whole(0, 9);
         due(x.made(0, 1, 1), FULL);
         due(x.integer(0), 9);
