@@ -162,7 +162,11 @@ public final class EdgesOfSlotsTest {
                 Edges.due(x.order(2, 1), 0);
             }
         }
-        Edges.due(x.slot(0, 0), 10);
+        Edges.says(7, "FULL.");
+        // The widest of them just fits; none of these 54 is FULL.
+        Edges.due(x.ups(0, 4, 5), 10);
+        Edges.due(x.ups(0, -4, 5), 10);
+        Edges.due(x.told(4), 0);
         Edges.says(7, "BEYOND");
         UppityGames y = new UppityGames();
         Edges.dueWithin(y, 0, 0, 7, "ups", 0, 0, 0);
@@ -181,11 +185,13 @@ public final class EdgesOfSlotsTest {
         Edges.dueWords(x, 7, "{0|0,{0|0,{0|*,0}}}");
         Edges.due(x.flower(7, 4, 3, 3), 5);
         Edges.due(x.slot(7, 7), 4);
-        // None is too wide or too long.
+        Edges.says(8, "FULL.");
+        // None of these 64 is.
         for (int n = 0; n < 64; n++) {
             int width = x.flower(0, 1 + (n & 3), n >> 2 & 3, n >> 4);
             Edges.due(width >= 2 && width <= 10 ? width : 0, x.slot(0, 0));
         }
+        Edges.due(x.told(4), 0);
         Edges.says(8, "BEYOND");
         UppityGames y = new UppityGames();
         Edges.dueWithin(y, 0, 0, 7, "flower", 0, 1, 0, 0);

@@ -212,6 +212,14 @@ public final class EdgesOfWeightsTest {
         Edges.text(x, 0, HOT);
         Edges.due(x.weight(0, 0), 0);
         Edges.dueWords(x, 0, "{1|-1}");
+        Edges.says(18, "FULL.");
+        // As wide as a game can be, and another one; their weights are less wide, as are all that a search has found.
+        Edges.due(Edges.text(x, 3, "^+^+^+^+^+^+^+^"), 10);
+        Edges.due(x.weight(3, 3), 1);
+        Edges.due(x.integer(3), 8);
+        Edges.due(Edges.text(x, 3, "{^+^|-^+-^+-^+-^}"), 9);
+        Edges.due(x.weight(3, 3), 0);
+        Edges.dueWords(x, 3, "{0|-2}");
         Edges.says(18, "STATE: that isn't SMALL.");
         Edges.due(x.weight(2, 0), Edges.STATE);
         Edges.due(x.weight(2, 1), Edges.STATE);
